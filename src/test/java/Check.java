@@ -1,0 +1,63 @@
+import java.nio.charset.StandardCharsets;
+import java.util.Arrays;
+
+/** What the tests share: an object that is told a text, and the counting of answers that are not due. */
+final class Check {
+    private int asked = 0;
+    private int wrong = 0;
+
+    void due(String call, long got, long want) {
+        asked++;
+        if (got != want) {
+            wrong++;
+            System.out.println(call + " answered " + got + ", due is " + want);
+        }
+    }
+
+    void due(String call, boolean got, boolean want) {
+        due(call, got ? 1 : 0, want ? 1 : 0);
+    }
+
+    void finish(String name) {
+        System.out.println(name + ": " + asked + " answers, " + wrong + " wrong");
+        if (wrong > 0 || asked == 0) {
+            System.exit(1);
+        }
+    }
+
+    static int put(KiteRoofs x, String text) {
+        return put(x, text.getBytes(StandardCharsets.ISO_8859_1));
+    }
+
+    /** Feeds the bytes and cuts off what the last feed had too many: what end() answers. */
+    static int put(KiteRoofs x, byte[] bytes) {
+        for (int i = 0; i < bytes.length; i += 20) {
+            byte[] b = Arrays.copyOfRange(bytes, i, i + 20);
+            x.feed(four(b, 0), four(b, 4), four(b, 8), four(b, 12), four(b, 16));
+        }
+        return x.end(bytes.length);
+    }
+
+    static int four(byte[] b, int at) {
+        return (b[at] & 255) << 24 | (b[at + 1] & 255) << 16 | (b[at + 2] & 255) << 8 | b[at + 3] & 255;
+    }
+
+    static KiteRoofs with(String text) {
+        KiteRoofs x = new KiteRoofs();
+        put(x, text);
+        if (x.town() < 0) {
+            throw new IllegalStateException("FAULT " + x.fault(0) + " at " + x.fault(1) + " of " + text);
+        }
+        return x;
+    }
+
+    /** Tells a new object the text: its FAULT and the FAULT's place must be these. */
+    void fault(String text, int kind, int place) {
+        KiteRoofs x = new KiteRoofs();
+        put(x, text);
+        int answer = x.town();
+        due("town() of '" + text + "'", answer, kind == 0 ? x.about(0) : KiteRoofs.NONE);
+        due("fault(0) of '" + text + "'", x.fault(0), kind);
+        due("fault(1) of '" + text + "'", x.fault(1), place);
+    }
+}
