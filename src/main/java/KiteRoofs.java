@@ -1159,7 +1159,7 @@ public final class KiteRoofs {
             this.town = town;
         }
 
-        /** Hears the wind of the row's hour; it stays so for all that is watched till the next. */
+        /** Hears the wind of the row's hour; hour, day and forces stay so for all that is watched till the next. */
         void blow(int[] row, boolean gust) {
             for (int i = 0; i < Formula.VALUES; i++) {
                 given[i] = 0;
@@ -1234,8 +1234,6 @@ public final class KiteRoofs {
                 }
                 int height = within(0, row[HEIGHT + k], HEIGHTS);
                 given[Formula.HEIGHT_VALUE] = height;
-                given[Formula.HOUR_VALUE] = row[HOUR];
-                given[Formula.DAY_VALUE] = row[DAY];
                 given[Formula.SIZE_VALUE] = town.size[k];
                 given[Formula.FORCE_VALUE] = forces[height];
                 given[Formula.NEAR_VALUE] = Integer.bitCount(nearTo[k]);

@@ -80,6 +80,14 @@ public final class ActsTest {
         CHECK.due("mend again", x.mend(0), -1);
         CHECK.due("fly again", x.fly(0, 1), 0);
         CHECK.due("ACTS", x.about(8), 3);
+        x = Check.with("roof r at 0 weight 6;kite a of r at 0 size 1 cord 99 height 1 tied;"
+            + "kite b of r at 9 size 1 cord 6 height 1 tied;lift 5+hour/9;");
+        for (int i = 0; i < 19; i++) {
+            x.hour();
+        }
+        CHECK.due("b was LOST in hour 10", x.mend(1), 11);
+        CHECK.due("its AGE", x.kite(1, 3), 0);
+        CHECK.due("a's AGE", x.kite(0, 3), 19);
     }
 
     private static void hours() {
@@ -307,6 +315,10 @@ public final class ActsTest {
         CHECK.due("day 0", x.back(2), 0);
         CHECK.due("gone on from", x.hour(), 1);
         CHECK.due("box 1 is as it was", x.back(1), 0);
+        CHECK.due("hour 0", x.about(3), 0);
+        CHECK.due("image in the first box", x.image(0), 0);
+        x.hour();
+        CHECK.due("back from the first box", x.back(0), 0);
         CHECK.due("hour 0", x.about(3), 0);
     }
 }

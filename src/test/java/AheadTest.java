@@ -40,6 +40,11 @@ public final class AheadTest {
         // SEEDS 709, 204, 19, 674: three gusts, then none.
         CHECK.due("calm from there", x.calm(0), 3);
         CHECK.due("nothing was done", x.about(3), 3);
+        x = Check.with("roof q at 0 weight 0;roof r at 0 weight 1;");
+        x.hour();
+        x.hour();
+        CHECK.due("of the second ROOF", x.downs(1, 7), 7);
+        CHECK.due("of the first ROOF", x.downs(0, 7), 0);
     }
 
     private static void farHours() {

@@ -74,7 +74,19 @@ public final class PlansTest {
         CHECK.due("nothing is done", x.about(6), 61);
     }
 
+    private static String eight() {
+        StringBuilder text = new StringBuilder();
+        for (int k = 0; k < 8; k++) {
+            text.append("kite ").append((char) ('a' + k)).append(" of r at ").append(2 * k)
+                .append(" size 1 cord 99 height 1 tied;");
+        }
+        return text.toString();
+    }
+
     private static void fewestByLanding() {
+        KiteRoofs all = Check.with("roof r at 0 weight 40;" + eight());
+        CHECK.due("all eight", all.fewest(0, 0), 8);
+        CHECK.due("all eight", all.fewest(0, 1), 255);
         // tom is too weak for both; with the other one landed he holds one.
         KiteRoofs x = Check.with("roof r at 0 weight 5;kite a of r at 0 size 1 cord 99 height 1;"
             + "kite b of r at 9 size 1 cord 99 height 1;boy tom arms 9;holds tom a;holds tom b;");
@@ -224,6 +236,9 @@ public final class PlansTest {
         x = Check.with("roof r at 0 weight 99;roof q at 0 weight 5;roof p at 0 weight 5;" + kites);
         CHECK.due("two", x.lend(), 2);
         lies(x, 0, 0, 1, 2);
+        x = Check.with("roof r at 0 weight 10;roof q at 0 weight 10;roof p at 0 weight 10;roof o at 0 weight 10;" + eight());
+        CHECK.due("all four", x.lend(), 4);
+        lies(x, 0, 0, 1, 1, 2, 2, 3, 3);
     }
 
     private static void wrongInputs() {

@@ -137,6 +137,12 @@ public final class SkyTest {
             x.hour();
         }
         CHECK.due("by hour and age", x.kite(0, 5), 33);
+        x = Check.with("roof r at 0 weight 1;kite a of r at 0 size 1 cord 99 height 2;kite b of r at 9 size 1 cord 99 height 2;"
+            + "lift age+day*10;");
+        for (int i = 0; i < 25; i++) {
+            x.hour();
+        }
+        CHECK.due("by its own age, and by day", x.kite(1, 5), 35);
         x = Check.with(PAIRS + "lift 9999;");
         CHECK.due("999 at most", x.kite(3, 5), 999);
         CHECK.due("then half, cut", x.kite(0, 5), 499);

@@ -144,6 +144,11 @@ public final class StrangerTest {
         }
         CHECK.due("none FLIES", x.ask(0, 0), -1);
         CHECK.due("none FLIES", x.ask(1, 0), -1);
+        x.fly(4, 9);
+        CHECK.due("the one that FLIES now", x.ask(0, -1), 4);
+        x.fly(4, 0);
+        x.fly(2, 9);
+        CHECK.due("another one", x.ask(0, -1), 2);
         CHECK.due("none in an empty TOWN", new KiteRoofs().ask(0, 0), -1);
     }
 

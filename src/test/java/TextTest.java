@@ -7,7 +7,9 @@ public final class TextTest {
     public static void main(String[] args) {
         newObject();
         tape();
+        bytesBehindTheEnd();
         townStartsAnew();
+        oldTownsAreGone();
         faultLeavesAll();
         tokens();
         lines();
@@ -65,6 +67,52 @@ public final class TextTest {
         CHECK.due("the SEED", x.about(5), 7);
         CHECK.due("fault(0)", x.fault(0), 0);
         CHECK.due("fault(1)", x.fault(1), -1);
+    }
+
+    /** What was fed and then cut off must not be read. */
+    private static void bytesBehindTheEnd() {
+        String[] texts = {"draw 57;", "roof ab at 1 weight 1;", "boy    b arms 1;", "wind 1+2;"};
+        int[] ends = {6, 6, 5, 6};
+        for (int i = 0; i < texts.length; i++) {
+            KiteRoofs x = new KiteRoofs();
+            Check.put(x, texts[i]);
+            x.end(ends[i]);
+            CHECK.due("town() of the first " + ends[i] + " of " + texts[i], x.town(), -1);
+            CHECK.due("fault(0)", x.fault(0), 2);
+            CHECK.due("fault(1)", x.fault(1), ends[i]);
+        }
+        KiteRoofs x = new KiteRoofs();
+        Check.put(x, "draw 5;x");
+        x.end(7);
+        CHECK.due("town()", x.town(), 0);
+        for (int i = 0; i < 80; i++) {
+            x.feed(0x77777777, 0x77777777, 0x77777777, 0x77777777, 0x77777777);
+        }
+        CHECK.due("a word to the last byte", x.town(), -1);
+        CHECK.due("its place", x.fault(1), 0);
+        for (int i = 0; i < 80; i++) {
+            x.feed(0x39393939, 0x39393939, 0x39393939, 0x39393939, 0x39393939);
+        }
+        CHECK.due("a number to the last byte", x.town(), -1);
+        CHECK.due("no TOKEN", x.fault(0), 1);
+    }
+
+    private static void oldTownsAreGone() {
+        KiteRoofs x = Check.with(KITE + "boy b arms 3;wind 3;lift 4;gust 50 of 9;draw 8;");
+        Check.put(x, KITE + "boy b arms 3;wind 3;lift 4;gust 50 of 9;draw 8;");
+        CHECK.due("told twice", x.town(), 1);
+        for (int i = 0; i < 2; i++) {
+            CHECK.due("an empty text", x.town(), 0);
+            for (int what = 0; what <= 14; what++) {
+                CHECK.due("empty about(" + what + ")", x.about(what), 0);
+            }
+            CHECK.due("usual wind", x.force(1, 0), 5);
+            CHECK.due("usual gust", x.force(1, 1), 6);
+        }
+        Check.put(x, "roof r at 0 weight 1;kite a of r at 0 size 2 cord 99 height 1;boy c arms 20;holds c a;");
+        CHECK.due("town()", x.town(), 1);
+        CHECK.due("usual lift", x.kite(0, 5), 10);
+        CHECK.due("no gusts", x.odds(0, 1, 1), 1);
     }
 
     private static void townStartsAnew() {
@@ -258,6 +306,13 @@ public final class TextTest {
         CHECK.fault("lift -1;", 2, 5);
         CHECK.fault("lift 1+;", 2, 7);
         CHECK.fault("lift 1 2;", 2, 7);
+        CHECK.fault("lift 1<;", 2, 7);
+        CHECK.fault("lift 1*;", 2, 7);
+        CHECK.fault("lift 1 and;", 2, 10);
+        CHECK.fault("lift 1 or;", 2, 9);
+        CHECK.fault("lift (1+);", 2, 8);
+        CHECK.fault("lift (;", 2, 6);
+        CHECK.fault("lift (1<);", 2, 8);
         CHECK.fault("lift;", 2, 4);
         CHECK.fault("lift not;", 2, 8);
         CHECK.fault("lift 1+not 1;", 2, 7);
