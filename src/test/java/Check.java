@@ -1,8 +1,21 @@
+import java.io.IOException;
+import java.io.UncheckedIOException;
 import java.nio.charset.StandardCharsets;
+import java.nio.file.Files;
+import java.nio.file.Path;
 import java.util.Arrays;
+import java.util.Set;
+import java.util.TreeSet;
 
 /** What the tests share: an object that is told a text, and the counting of answers that are not due. */
 final class Check {
+    private static final Path DOCUMENT = Path.of("../shared/DOC.md");
+
+    private final Set<Integer> promises = new TreeSet<>();
+    private String document;
+    private String beside = "";
+    private int sentences = 0;
+    private int askedBefore = 0;
     private int asked = 0;
     private int wrong = 0;
 
@@ -10,12 +23,53 @@ final class Check {
         asked++;
         if (got != want) {
             wrong++;
-            System.out.println(call + " answered " + got + ", due is " + want);
+            System.out.println(beside + call + " answered " + got + ", due is " + want);
         }
     }
 
     void due(String call, boolean got, boolean want) {
         due(call, got ? 1 : 0, want ? 1 : 0);
+    }
+
+    /** The answers from here on are due by this sentence, which must stand in the document to the letter. */
+    void says(int promise, String sentence) {
+        endSentence();
+        promises.add(promise);
+        sentences++;
+        beside = "promise " + promise + ", '" + sentence + "': ";
+        if (!document().contains(sentence)) {
+            wrong++;
+            System.out.println(beside + "the document does not say this");
+        }
+    }
+
+    private void endSentence() {
+        if (sentences > 0 && asked == askedBefore) {
+            wrong++;
+            System.out.println(beside + "nothing was asked");
+        }
+        askedBefore = asked;
+    }
+
+    private String document() {
+        if (document == null) {
+            try {
+                document = Files.readString(DOCUMENT).replace("&lt;", "<").replace("&gt;", ">").replaceAll("\\s+", " ");
+            } catch (IOException e) {
+                throw new UncheckedIOException(e);
+            }
+        }
+        return document;
+    }
+
+    /** Each promise from the first to the last must have had a sentence. */
+    void saidOfEach(int first, int last) {
+        endSentence();
+        beside = "";
+        for (int promise = first; promise <= last; promise++) {
+            due("sentences of promise " + promise, promises.contains(promise), true);
+        }
+        System.out.println(sentences + " sentences");
     }
 
     void finish(String name) {
@@ -59,5 +113,15 @@ final class Check {
         due("town() of '" + text + "'", answer, kind == 0 ? x.about(0) : KiteRoofs.NONE);
         due("fault(0) of '" + text + "'", x.fault(0), kind);
         due("fault(1) of '" + text + "'", x.fault(1), place);
+    }
+
+    /** Tells a new object the text: it must be a TOWN. */
+    void sound(String text) {
+        fault(text, 0, KiteRoofs.NONE);
+    }
+
+    /** A FAULT at the last part, which follows the rest directly. */
+    void faultAt(String rest, String last, int kind) {
+        fault(rest + last, kind, rest.length());
     }
 }

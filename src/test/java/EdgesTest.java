@@ -1,0 +1,9 @@
+/** Each sentence of the document that names a boundary case, with the answers that are due by it. */
+public final class EdgesTest {
+    public static void main(String[] args) {
+        Check check = new Check();
+        new EdgesOfText(check).all();
+        check.saidOfEach(1, 5);
+        check.finish("EdgesTest");
+    }
+}
