@@ -3,7 +3,8 @@ public final class EdgesTest {
     public static void main(String[] args) {
         Check check = new Check();
         new EdgesOfText(check).all();
-        check.saidOfEach(1, 5);
+        new EdgesOfSky(check).all();
+        check.saidOfEach(1, 11);
         check.finish("EdgesTest");
     }
 }
