@@ -4,7 +4,8 @@ public final class EdgesTest {
         Check check = new Check();
         new EdgesOfText(check).all();
         new EdgesOfSky(check).all();
-        check.saidOfEach(1, 11);
+        new EdgesOfActs(check).all();
+        check.saidOfEach(1, 18);
         check.finish("EdgesTest");
     }
 }
