@@ -5,7 +5,8 @@ public final class EdgesTest {
         new EdgesOfText(check).all();
         new EdgesOfSky(check).all();
         new EdgesOfActs(check).all();
-        check.saidOfEach(1, 18);
+        new EdgesOfAhead(check).all();
+        check.saidOfEach(1, 21);
         check.finish("EdgesTest");
     }
 }
