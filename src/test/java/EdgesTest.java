@@ -6,7 +6,8 @@ public final class EdgesTest {
         new EdgesOfSky(check).all();
         new EdgesOfActs(check).all();
         new EdgesOfAhead(check).all();
-        check.saidOfEach(1, 21);
+        new EdgesOfPlans(check).all();
+        check.saidOfEach(1, 29);
         check.finish("EdgesTest");
     }
 }
