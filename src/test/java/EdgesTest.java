@@ -7,7 +7,8 @@ public final class EdgesTest {
         new EdgesOfActs(check).all();
         new EdgesOfAhead(check).all();
         new EdgesOfPlans(check).all();
-        check.saidOfEach(1, 29);
+        new EdgesOfStranger(check).all();
+        check.saidOfEach(1, 38);
         check.finish("EdgesTest");
     }
 }
