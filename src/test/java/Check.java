@@ -9,6 +9,9 @@ import java.util.TreeSet;
 
 /** What the tests share: an object that is told a text, and the counting of answers that are not due. */
 final class Check {
+    /** Numbers far from all that can be told; 64, 256 and 65,536 are 0 to a shift, a byte and a short. */
+    static final int[] FAR = {Integer.MIN_VALUE, -65536, -256, -32, -3, -2, 64, 99, 256, 65536, Integer.MAX_VALUE};
+
     private static final Path DOCUMENT = Path.of("../shared/DOC.md");
 
     private final Set<Integer> promises = new TreeSet<>();

@@ -1,6 +1,5 @@
 /** The edges of promises 12 to 18 and 36 to 38: ACTS, HOURS, UNDO and REDO, images, about. */
 final class EdgesOfActs {
-    private static final int[] FAR = {Integer.MIN_VALUE, -3, -2, 99, Integer.MAX_VALUE};
     // a lifts 5 and its cord bears 4: it is LOST in the first HOUR. b is tom's, c is landed and neither.
     private static final String TOWN = "roof r at 0 weight 6;roof s at 0 weight 0;"
         + "kite a of r at 0 size 1 cord 4 height 1 tied;"
@@ -61,7 +60,7 @@ final class EdgesOfActs {
         check.due("height -1", x.fly(1, -1), -1);
         check.due("behind the last KITE", x.fly(3, 1), -1);
         check.due("KITE -1", x.fly(-1, 1), -1);
-        for (int wrong : FAR) {
+        for (int wrong : Check.FAR) {
             check.due("fly(" + wrong + ", 1)", x.fly(wrong, 1), -1);
             check.due("fly(1, " + wrong + ")", x.fly(1, wrong), -1);
         }
@@ -93,7 +92,7 @@ final class EdgesOfActs {
         check.due("so already", x.tie(0), -3);
         check.due("behind the last KITE", x.tie(3), -3);
         check.due("KITE -1", x.tie(-1), -3);
-        for (int wrong : FAR) {
+        for (int wrong : Check.FAR) {
             check.due("tie(" + wrong + ")", x.tie(wrong), -3);
         }
         check.due("nothing was done", x.about(8), 0);
@@ -128,7 +127,7 @@ final class EdgesOfActs {
         check.due("behind the last KITE", x.give(3, 0), -3);
         check.due("KITE -1", x.give(-1, 0), -3);
         check.due("no such KITE let go", x.give(3, -1), -3);
-        for (int wrong : FAR) {
+        for (int wrong : Check.FAR) {
             check.due("give(" + wrong + ", 0)", x.give(wrong, 0), -3);
             check.due("give(1, " + wrong + ")", x.give(1, wrong), -3);
         }
@@ -161,7 +160,7 @@ final class EdgesOfActs {
         check.due("never LOST", x.mend(1), -1);
         check.due("behind the last KITE", x.mend(3), -1);
         check.due("KITE -1", x.mend(-1), -1);
-        for (int wrong : FAR) {
+        for (int wrong : Check.FAR) {
             check.due("mend(" + wrong + ")", x.mend(wrong), -1);
         }
         check.due("nothing was done", x.about(8), 2);
@@ -475,7 +474,7 @@ final class EdgesOfActs {
         check.says(36, "the day; NONE if there is none such.");
         check.due("BOX 3", x.image(3), -1);
         check.due("BOX -1", x.image(-1), -1);
-        for (int wrong : FAR) {
+        for (int wrong : Check.FAR) {
             check.due("image(" + wrong + ")", x.image(wrong), -1);
         }
         check.due("nothing was kept by that", x.back(1), -1);
@@ -522,7 +521,7 @@ final class EdgesOfActs {
         check.due("BOX 2 is empty", x.back(2), -1);
         check.due("BOX 3", x.back(3), -1);
         check.due("BOX -1", x.back(-1), -1);
-        for (int wrong : FAR) {
+        for (int wrong : Check.FAR) {
             check.due("back(" + wrong + ")", x.back(wrong), -1);
         }
         check.due("nothing was done", x.about(9), 1);
@@ -573,7 +572,7 @@ final class EdgesOfActs {
         check.says(38, "14: how many lie there. NONE for another what.");
         check.due("about(15)", x.about(15), -1);
         check.due("about(-1)", x.about(-1), -1);
-        for (int wrong : FAR) {
+        for (int wrong : Check.FAR) {
             check.due("about(" + wrong + ")", x.about(wrong), -1);
         }
     }

@@ -1,6 +1,5 @@
 /** The edges of promises 19 to 21, 27 and 28: what HOURS bring, odds, another law of crossing. */
 final class EdgesOfAhead {
-    private static final int[] FAR = {Integer.MIN_VALUE, -1000, -2, 99, Integer.MAX_VALUE};
     private static final String ONE = "roof r at 0 weight 1;kite a of r at 0 size 1 cord 99 height 1 tied;";
     // SEEDS behind 9: 304, 719, 574, 709: with gust 20 there are gusts in the HOURS 1, 2 and 4.
     private static final String GUSTS = "roof r at 0 weight 6;roof q at 0 weight 5;"
@@ -83,7 +82,7 @@ final class EdgesOfAhead {
         check.due("will(0)", x.will(0), -1);
         check.due("will(61)", x.will(61), -1);
         check.due("will(-1)", x.will(-1), -1);
-        for (int wrong : FAR) {
+        for (int wrong : Check.FAR) {
             check.due("will(" + wrong + ")", x.will(wrong), -1);
         }
         // The 60th HOUR from now is hour 11 of day 2.
@@ -151,7 +150,7 @@ final class EdgesOfAhead {
         check.due("weight 0 is never DOWN", Check.with("roof r at 0 weight 0;").calm(0), -1);
         check.due("behind the last ROOF", x.calm(1), -1);
         check.due("ROOF -1", x.calm(-1), -1);
-        for (int wrong : FAR) {
+        for (int wrong : Check.FAR) {
             check.due("calm(" + wrong + ")", x.calm(wrong), -1);
         }
         check.due("without ROOFS", new KiteRoofs().calm(0), -1);
@@ -168,13 +167,18 @@ final class EdgesOfAhead {
         check.due("in -1", x.downs(0, -1), -1);
         check.due("behind the last ROOF", x.downs(1, 1), -1);
         check.due("ROOF -1", x.downs(-1, 1), -1);
-        for (int wrong : FAR) {
+        for (int wrong : Check.FAR) {
             check.due("downs(0, " + wrong + ")", x.downs(0, wrong), -1);
             check.due("downs(" + wrong + ", 1)", x.downs(wrong, 1), -1);
         }
         x.hour();
         x.hour();
         check.due("what was before does not count", x.downs(0, 3), 3);
+        x = Check.with("roof q at 0 weight 0;" + ONE + "wind 0;");
+        x.hour();
+        check.due("of the first ROOF", x.downs(0, 5), 0);
+        check.due("of the last ROOF", x.downs(1, 5), 5);
+        check.due("of the last ROOF, first", x.calm(1), 0);
         x = Check.with(GUSTS);
         check.due("by gusts: 2", x.downs(0, 2), 0);
         check.due("by gusts: 3", x.downs(0, 3), 1);
@@ -236,7 +240,7 @@ final class EdgesOfAhead {
         check.due("part -1", x.odds(0, 1, -1), -1);
         check.due("behind the last ROOF", x.odds(1, 1, 0), -1);
         check.due("ROOF -1", x.odds(-1, 1, 0), -1);
-        for (int wrong : FAR) {
+        for (int wrong : Check.FAR) {
             check.due("odds(" + wrong + ", 1, 0)", x.odds(wrong, 1, 0), -1);
             check.due("odds(0, " + wrong + ", 0)", x.odds(0, wrong, 0), -1);
             check.due("odds(0, 1, " + wrong + ")", x.odds(0, 1, wrong), -1);
@@ -276,7 +280,7 @@ final class EdgesOfAhead {
         check.due("1 of 10 of weight 1", x.law(1), 0);
         check.due("11", x.law(11), -1000);
         check.due("-1", x.law(-1), -1000);
-        for (int wrong : FAR) {
+        for (int wrong : Check.FAR) {
             check.due("law(" + wrong + ")", x.law(wrong), -1000);
         }
         check.due("without ROOFS", new KiteRoofs().law(0), 0);

@@ -1,6 +1,5 @@
 /** The edges of promises 22 to 26 and 29: best, fewest, crew, guard, lend, lies. */
 final class EdgesOfPlans {
-    private static final int[] FAR = {Integer.MIN_VALUE, -3, -2, -1, 2, 99, Integer.MAX_VALUE};
 
     private final Check check;
 
@@ -58,7 +57,10 @@ final class EdgesOfPlans {
         bestIs(one("99 height 1", "kite l of r at 0 size 1 cord 99 height 8;wind 0;lift height*(near=0);"), 6, 6);
         // Higher than 5 it CROSSES the other one, which halves; at 5 both PLACES are 5.
         bestIs(one("99 height 1", "kite l of r at 4 size 1 cord 99 height 1;wind 10;lift height*2;"), 5, 10);
-        KiteRoofs x = one("99 height 2", "lift height;boy b arms 1 hours 1;holds b k;");
+        KiteRoofs x = one("99 height 9 tied", "kite l of r at 9 size 1 cord 99;lift 20-height;");
+        check.due("of the last KITE: the height", x.best(1, 0), 1);
+        check.due("of the last KITE: what it PULLS", x.best(1, 1), 19);
+        x = one("99 height 2", "lift height;boy b arms 1 hours 1;holds b k;");
         x.best(0, 0);
         check.due("nothing is done: height", x.kite(0, 0), 2);
         check.due("nothing is done: the BOY", x.kite(0, 1), 0);
@@ -73,11 +75,19 @@ final class EdgesOfPlans {
         check.due("LOST: what it PULLS", x.best(0, 1), -1);
         x.mend(0);
         check.due("mended", x.best(0, 0), 1);
+        x = one("99 height 5 tied", "kite l of r at 9 size 1 cord 4 height 5 tied;");
+        x.hour();
+        check.due("the last is LOST", x.best(1, 0), -1);
+        check.due("the first is not", x.best(0, 0), 1);
+        x = one("4 height 5 tied", "");
         check.due("behind the last KITE", x.best(1, 0), -1);
-        for (int wrong : FAR) {
+        for (int wrong : Check.FAR) {
             check.due("best(" + wrong + ", 0)", x.best(wrong, 0), -1);
             check.due("best(0, " + wrong + ")", x.best(0, wrong), -1);
         }
+        check.due("best(-1, 0)", x.best(-1, 0), -1);
+        check.due("best(0, -1)", x.best(0, -1), -1);
+        check.due("best(0, 2)", x.best(0, 2), -1);
         check.due("in an empty TOWN", new KiteRoofs().best(0, 0), -1);
     }
 
@@ -122,10 +132,13 @@ final class EdgesOfPlans {
         fewestIs(Check.with("roof r at 0 weight 1;"), -1, -1);
         x = Check.with("roof r at 0 weight 0;");
         check.due("behind the last ROOF", x.fewest(1, 0), -1);
-        for (int wrong : FAR) {
+        for (int wrong : Check.FAR) {
             check.due("fewest(" + wrong + ", 0)", x.fewest(wrong, 0), -1);
             check.due("fewest(0, " + wrong + ")", x.fewest(0, wrong), -1);
         }
+        check.due("fewest(-1, 0)", x.fewest(-1, 0), -1);
+        check.due("fewest(0, -1)", x.fewest(0, -1), -1);
+        check.due("fewest(0, 2)", x.fewest(0, 2), -1);
         check.due("without ROOFS", new KiteRoofs().fewest(0, 0), -1);
     }
 
@@ -154,12 +167,23 @@ final class EdgesOfPlans {
         x.give(0, 0);
         x.hour();
         crewIs(x, 1, 2);
+        x.undo();
+        check.due("one hour left", x.boy(0, 1), 1);
+        crewIs(x, 1, 1);
+        x.redo();
         x.tie(0);
         crewIs(x, 0, 0);
         x.give(0, -1);
         crewIs(x, 1, 2);
         x.fly(0, 0);
         crewIs(x, 0, 0);
+        x = crewOf("boy a arms 5;", 5, 9);
+        x.tie(1);
+        crewIs(x, 1, 1);
+        // What was lent before changes nothing.
+        x = Check.with("roof r at 0 weight 0;roof s at 0 weight 0;" + kites("", 5) + "boy a arms 5;");
+        x.lend();
+        crewIs(x, 1, 1);
         // What he holds now is shared anew.
         x = crewOf("boy a arms 5;boy b arms 6;holds a b;", 5, 6);
         crewIs(x, 2, 3);
@@ -177,9 +201,11 @@ final class EdgesOfPlans {
         x.give(0, 0);
         x.hour();
         crewIs(x, -1, -1);
-        for (int wrong : FAR) {
+        for (int wrong : Check.FAR) {
             check.due("crew(" + wrong + ")", x.crew(wrong), -1);
         }
+        check.due("crew(-1)", x.crew(-1), -1);
+        check.due("crew(2)", x.crew(2), -1);
     }
 
     private void guardIs(KiteRoofs x, int kite, int roofs) {
@@ -221,9 +247,11 @@ final class EdgesOfPlans {
         check.due("LOST", x.about(7), 1);
         guardIs(x, -1, -1);
         x = Check.with("roof r at 0 weight 0;" + kites(" tied", 1, 1));
-        for (int wrong : FAR) {
+        for (int wrong : Check.FAR) {
             check.due("guard(" + wrong + ")", x.guard(wrong), -1);
         }
+        check.due("guard(-1)", x.guard(-1), -1);
+        check.due("guard(2)", x.guard(2), -1);
     }
 
     private void lendIs(KiteRoofs x, int up, int... roofs) {
@@ -256,6 +284,8 @@ final class EdgesOfPlans {
         lendIs(lending(new int[] {0, 0}, 1, 1), 2, 0, 0);
         lendIs(lending(new int[] {2, 2, 2, 2}, 1, 1, 1, 1, 1, 1, 1, 1), 4, 0, 0, 1, 1, 2, 2, 3, 3);
         lendIs(lending(new int[] {9, 9, 9, 1}, 1, 1, 1, 1, 1, 1, 1, 1), 1, 0, 0, 0, 0, 0, 0, 0, 3);
+        // What the first can't be given for is still to be pulled by others.
+        lendIs(lending(new int[] {2, 4}, 3, 1, 2), 2, 1, 1, 0);
         // Three by 5 and 5 and 5 of 5 + 4 + 1 + 3 + 2.
         lendIs(lending(new int[] {5, 5, 5}, 5, 4, 1, 3, 2), 3, 0, 1, 1, 2, 2);
         // What is not HELD or landed PULLS nothing now.
@@ -299,9 +329,10 @@ final class EdgesOfPlans {
         check.due("the first", x.lies(0), 1);
         check.due("the last", x.lies(1), 0);
         check.due("behind it", x.lies(2), -1);
-        for (int wrong : FAR) {
+        for (int wrong : Check.FAR) {
             check.due("lies(" + wrong + ")", x.lies(wrong), -1);
         }
+        check.due("lies(-1)", x.lies(-1), -1);
         x = lending(new int[] {1}, 1, 1, 1, 1, 1, 1, 1, 1);
         x.lend();
         check.due("the eighth", x.lies(7), 0);

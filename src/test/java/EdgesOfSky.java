@@ -1,6 +1,5 @@
 /** The edges of promises 6 to 11: what a KITE, a ROOF and a BOY are, the wind, who is NEAR, what CROSSES. */
 final class EdgesOfSky {
-    private static final int[] FAR = {Integer.MIN_VALUE, -3, -2, -1, 99, Integer.MAX_VALUE};
     private static final String ROOF = "roof r at 0 weight 5;";
     private static final String MOST_INT = "(8192*8192*32-1)";
 
@@ -134,8 +133,10 @@ final class EdgesOfSky {
         KiteRoofs x = one("0 size 1 cord 9 height 1 tied", "kite l of r at 0 size 1 cord 9 height 1 tied;");
         check.due("the last KITE", x.kite(1, 9), 0);
         check.due("one behind it", x.kite(2, 9), -3);
+        check.due("KITE -1", x.kite(-1, 9), -3);
+        check.due("what -1", x.kite(0, -1), -3);
         check.due("one behind the last what", x.kite(0, 10), -3);
-        for (int wrong : FAR) {
+        for (int wrong : Check.FAR) {
             check.due("kite(" + wrong + ", 0)", x.kite(wrong, 0), -3);
             check.due("kite(0, " + wrong + ")", x.kite(0, wrong), -3);
         }
@@ -157,8 +158,10 @@ final class EdgesOfSky {
         check.says(7, "5: its YARD; NONE if there is none such, or for another what.");
         check.due("the last ROOF", x.roof(2, 0), 1);
         check.due("one behind it", x.roof(3, 0), -1);
+        check.due("ROOF -1", x.roof(-1, 0), -1);
+        check.due("what -1", x.roof(0, -1), -1);
         check.due("one behind the last what", x.roof(0, 6), -1);
-        for (int wrong : FAR) {
+        for (int wrong : Check.FAR) {
             check.due("roof(" + wrong + ", 0)", x.roof(wrong, 0), -1);
             check.due("roof(0, " + wrong + ")", x.roof(0, wrong), -1);
         }
@@ -190,6 +193,11 @@ final class EdgesOfSky {
         check.due("nothing is the other one's", x.boy(0, 3), 0);
         x.give(7, 0);
         check.due("more than his arms", x.boy(0, 2), 5);
+        check.due("one fewer", x.boy(1, 3), 127);
+        for (int k = 0; k < 8; k++) {
+            x.fly(k, 0);
+        }
+        check.due("all are landed again", x.boy(1, 3), 0);
         x = lost();
         x.give(0, 0);
         check.due("LOST is given, but does not FLY", x.boy(0, 3), 0);
@@ -199,8 +207,10 @@ final class EdgesOfSky {
         x = Check.with("boy a arms 1;boy z arms 99;");
         check.due("the last BOY", x.boy(1, 0), 99);
         check.due("one behind him", x.boy(2, 0), -1);
+        check.due("BOY -1", x.boy(-1, 0), -1);
+        check.due("what -1", x.boy(0, -1), -1);
         check.due("one behind the last what", x.boy(0, 4), -1);
-        for (int wrong : FAR) {
+        for (int wrong : Check.FAR) {
             check.due("boy(" + wrong + ", 0)", x.boy(wrong, 0), -1);
             check.due("boy(0, " + wrong + ")", x.boy(0, wrong), -1);
         }
@@ -217,7 +227,9 @@ final class EdgesOfSky {
         check.due("height 0", x.force(0, 0), -1);
         check.due("height 10", x.force(10, 0), -1);
         check.due("gust 2", x.force(1, 2), -1);
-        for (int wrong : FAR) {
+        check.due("gust -1", x.force(1, -1), -1);
+        check.due("height -1", x.force(-1, 0), -1);
+        for (int wrong : Check.FAR) {
             check.due("force(" + wrong + ", 0)", x.force(wrong, 0), -1);
             check.due("force(1, " + wrong + ")", x.force(1, wrong), -1);
         }
@@ -343,8 +355,10 @@ final class EdgesOfSky {
         check.due("landed", x.near(0, 0), 0);
         check.due("landed", x.near(0, 1), 0);
         check.due("what 2", x.near(0, 2), -1);
+        check.due("what -1", x.near(0, -1), -1);
+        check.due("KITE -1", x.near(-1, 0), -1);
         check.due("behind the last KITE", x.near(8, 0), -1);
-        for (int wrong : FAR) {
+        for (int wrong : Check.FAR) {
             check.due("near(" + wrong + ", 0)", x.near(wrong, 0), -1);
             check.due("near(0, " + wrong + ")", x.near(0, wrong), -1);
         }
@@ -370,6 +384,12 @@ final class EdgesOfSky {
             pass(x, 25);
             check.due(values[i] + " in hour 1 of day 1", x.kite(0, 5), then[i]);
         }
+        KiteRoofs x = one("0 size 1 cord 99 height 1 tied", "kite l of r at 9 size 1 cord 99 tied;lift 3+age;");
+        pass(x, 5);
+        x.fly(1, 1);
+        pass(x, 2);
+        check.due("its own age", x.kite(0, 5), 10);
+        check.due("its own age, of the last", x.kite(1, 5), 5);
     }
 
     private static int lift(String lift) {
@@ -407,7 +427,12 @@ final class EdgesOfSky {
         check.due("0 and 7", lift("0 and 7"), 0);
         check.due("0 or -7", lift("0 or 0-7"), 1);
         check.due("8 or 4", lift("8 or 4"), 1);
-        check.due("0 or 0", lift("0 or 0"), 0);
+        check.due("0 or 0", lift("5+(0 or 0)"), 5);
+        check.due("0 and 0", lift("5+(0 and 0)"), 5);
+        check.due("not 9", lift("5+(not 9)"), 5);
+        check.due("4 < 3", lift("5+(4<3)"), 5);
+        check.due("3 > 4", lift("5+(3>4)"), 5);
+        check.due("3 = 4", lift("5+(3=4)"), 5);
         check.due("8 and 4", lift("8 and 4"), 1);
         check.due("not 0", lift("not 0"), 1);
         check.due("not 7", lift("not 7"), 0);

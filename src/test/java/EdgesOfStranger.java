@@ -1,6 +1,5 @@
 /** The edges of promises 30 to 35: what is STOLEN, in two times, and where a stranger's kite can be. */
 final class EdgesOfStranger {
-    private static final int[] FAR = {Integer.MIN_VALUE, -3, -2, -1, 2, 99, Integer.MAX_VALUE};
     private static final int ALL = 270;
 
     private final Check check;
@@ -44,7 +43,8 @@ final class EdgesOfStranger {
         check.says(30, "A STOLEN: its number; NONE, doing nothing, if one can't be, or there are 30.");
         x = still(10, 5, 15, 0);
         check.due("behind the last KITE", x.stolen(2, true), -1);
-        for (int wrong : FAR) {
+        check.due("KITE -1", x.stolen(-1, true), -1);
+        for (int wrong : Check.FAR) {
             check.due("stolen(" + wrong + ", true)", x.stolen(wrong, true), -1);
             check.due("stolen(" + wrong + ", false)", x.stolen(wrong, false), -1);
         }
@@ -70,7 +70,8 @@ final class EdgesOfStranger {
         check.due("none such", x.untell(0), false);
         x.stolen(0, true);
         check.due("behind the last", x.untell(1), false);
-        for (int wrong : FAR) {
+        check.due("untell(-1)", x.untell(-1), false);
+        for (int wrong : Check.FAR) {
             check.due("untell(" + wrong + ")", x.untell(wrong), false);
         }
         check.due("it counts", x.spots(0), 15);
@@ -264,6 +265,11 @@ final class EdgesOfStranger {
         askIs(x, 0, 1, ALL - 15);
         x.fly(0, 9);
         askIs(x, 0, 1, ALL - 15);
+        // Just one SPOT is left whatever is heard.
+        x = still(10, 4, 14, 6);
+        x.stolen(0, true);
+        x.stolen(1, true);
+        askIs(x, 0, 0, 1);
         // One of which nothing can be heard leaves all.
         x = Check.with("roof r at 0 weight 0;kite a of r at 19 size 1 cord 999 height 9 tied;wind 20;");
         askIs(x, 0, 0, ALL);
@@ -273,9 +279,11 @@ final class EdgesOfStranger {
         check.says(35, "ASK what 0: the KITE, 1: how many are left at the most; NONE if there are no SPOTS, none FLIES, or for "
             + "another what.");
         KiteRoofs x = still(10, 5);
-        for (int wrong : FAR) {
+        for (int wrong : Check.FAR) {
             check.due("ask(" + wrong + ", 0)", x.ask(wrong, 0), -1);
         }
+        check.due("ask(-1, 0)", x.ask(-1, 0), -1);
+        check.due("ask(2, 0)", x.ask(2, 0), -1);
         x.later(1);
         x.stolen(0, true);
         x.stolen(0, false);

@@ -153,6 +153,14 @@ final class EdgesOfText {
         return x;
     }
 
+    /** The busy TOWN, told anew. */
+    private static KiteRoofs anew() {
+        KiteRoofs x = busy();
+        Check.put(x, KITE + BOY + "draw 8;");
+        x.town();
+        return x;
+    }
+
     private void town() {
         check.says(4, "The TAPE (empty then) is the TOWN");
         KiteRoofs x = busy();
@@ -165,9 +173,7 @@ final class EdgesOfText {
         check.due("the TAPE is empty then, too", x.about(12), 0);
 
         check.says(4, "all as told");
-        x = busy();
-        Check.put(x, KITE + BOY + "draw 8;");
-        x.town();
+        x = anew();
         int[] kite = {0, -1, 0, 0, 1, 0, 0, 0, 1, 0};
         for (int what = 0; what < kite.length; what++) {
             check.due("kite(0, " + what + ")", x.kite(0, what), kite[what]);
@@ -183,7 +189,27 @@ final class EdgesOfText {
         check.due("LOST", x.about(7), 0);
         check.due("wind is not told", x.force(1, 0), 5);
 
+        String full = KITE + BOY + "holds b k;wind 3;lift 4;gust 5 of 6;draw 7;";
+        x = new KiteRoofs();
+        for (int i = 0; i < 3; i++) {
+            Check.put(x, full);
+            check.due("the same text once more", x.town(), 1);
+            check.due("units", x.about(13), 2);
+        }
+        for (int i = 0; i < 3; i++) {
+            check.due("an empty text", x.town(), 0);
+            for (int what = 0; what <= 14; what++) {
+                check.due("of an empty TOWN about(" + what + ")", x.about(what), 0);
+            }
+            check.due("wind is not told any more", x.force(1, 0), 5);
+            check.due("gust is not told any more", x.force(1, 1), 6);
+        }
+        Check.put(x, "roof a at 0 weight 0;kite a of a at 0 size 2 cord 99 height 1 tied;");
+        x.town();
+        check.due("lift is not told any more", x.kite(0, 5), 10);
+
         check.says(4, "hour 0 of day 0");
+        x = anew();
         check.due("hour", x.about(3), 0);
         check.due("day", x.about(4), 0);
 
@@ -266,9 +292,10 @@ final class EdgesOfText {
         check.says(5, "NONE for another what.");
         Check.put(x, "roof r at 20");
         x.town();
-        int[] wrong = {Integer.MIN_VALUE, -1, 2, 3, Integer.MAX_VALUE};
-        for (int what : wrong) {
-            check.due("fault(" + what + ")", x.fault(what), -1);
+        check.due("fault(-1)", x.fault(-1), -1);
+        check.due("fault(2)", x.fault(2), -1);
+        for (int wrong : Check.FAR) {
+            check.due("fault(" + wrong + ")", x.fault(wrong), -1);
         }
     }
 
