@@ -29,6 +29,7 @@ final class EdgesOfActs {
         fortyAreKept();
         image();
         back();
+        fullTown();
         about();
     }
 
@@ -527,6 +528,109 @@ final class EdgesOfActs {
         check.due("nothing was done", x.about(9), 1);
         check.due("redo()", x.redo(), true);
         check.due("at first", new KiteRoofs().back(0), -1);
+    }
+
+    /** As many of each sort as can be; LIFTS are the sizes 1 to 8, PLACES the spools. b's and d's last KITES are torn off. */
+    private static String full() {
+        StringBuilder text = new StringBuilder("roof a at 0 weight 0;roof b at 0 weight 1;roof c at 0 weight 999;"
+            + "roof d at 0 weight 4;wind 0;lift size;");
+        for (int k = 0; k < 8; k++) {
+            text.append("kite ").append((char) ('p' + k)).append(" of ").append((char) ('a' + k % 4)).append(" at ")
+                .append(2 * k).append(" size ").append(k + 1).append(" cord ").append(k == 1 || k == 7 ? k : 99)
+                .append(" height ").append(k + 1).append(k < 2 || k == 7 ? " tied;" : ";");
+        }
+        text.append("boy a arms 9 hours 1;boy b arms 9 hours 2;boy c arms 9 hours 3;boy d arms 9 hours 24;");
+        return text + "holds a r;holds b s;holds c t;holds d u;";
+    }
+
+    private void row(KiteRoofs x, String when, int what, int... due) {
+        for (int k = 0; k < 8; k++) {
+            check.due(when + " kite(" + k + ", " + what + ")", x.kite(k, what), due[k]);
+        }
+    }
+
+    private void asTold(KiteRoofs x) {
+        row(x, "as told", 0, 1, 2, 3, 4, 5, 6, 7, 8);
+        row(x, "as told", 1, -2, -2, 0, 1, 2, 3, -1, -2);
+        row(x, "as told", 2, 0, 0, 0, 0, 0, 0, 0, 0);
+        row(x, "as told", 3, 0, 0, 0, 0, 0, 0, 0, 0);
+        int[] hours = {1, 2, 3, 24};
+        for (int i = 0; i < 4; i++) {
+            check.due("as told: hours of " + i, x.boy(i, 1), hours[i]);
+            check.due("as told: DOWN " + i, x.roof(i, 3), 0);
+        }
+        check.due("as told: hour, day, SEED", x.about(3) + x.about(4) + x.about(5), 0);
+    }
+
+    private void afterThreeHours(KiteRoofs x, String when) {
+        row(x, when, 0, 1, 2, 3, 4, 5, 6, 7, 8);
+        row(x, when, 1, -2, -2, 0, 1, 2, 3, -1, -2);
+        row(x, when, 2, 0, 1, 0, 0, 0, 0, 0, 1);
+        row(x, when, 3, 3, 1, 3, 3, 3, 3, 3, 1);
+        row(x, when, 6, 1, 0, 0, 0, 0, 1, 0, 0);
+        int[] hours = {0, 0, 0, 21};
+        int[] down = {0, 0, 3, 1};
+        for (int i = 0; i < 4; i++) {
+            check.due(when + ": hours of " + i, x.boy(i, 1), hours[i]);
+            check.due(when + ": DOWN " + i, x.roof(i, 3), down[i]);
+        }
+        check.due(when + ": hour", x.about(3), 3);
+        check.due(when + ": day", x.about(4), 0);
+        check.due(when + ": SEED", x.about(5), 397);
+    }
+
+    private void fullTown() {
+        check.says(16, "each ROOF that is not UP was DOWN once more; each BOY to whom one that FLIES is given has an hour less");
+        KiteRoofs x = Check.with(full());
+        asTold(x);
+        int[] down = {4, 4, 12};
+        for (int i = 0; i < 3; i++) {
+            check.due("HOUR " + i, x.hour(), down[i]);
+        }
+        afterThreeHours(x, "then");
+
+        check.says(17, "UNDO takes back the latest ACT that was not, REDO does that again");
+        for (int i = 0; i < 3; i++) {
+            x.undo();
+        }
+        asTold(x);
+        for (int i = 0; i < 3; i++) {
+            x.redo();
+        }
+        afterThreeHours(x, "redone");
+
+        check.says(37, "All is as it was kept");
+        x.image(2);
+        x.mend(7);
+        x.give(6, 3);
+        x.tie(5);
+        x.fly(0, 9);
+        pass(x, 30);
+        x.back(2);
+        afterThreeHours(x, "kept");
+
+        check.says(15, "A KITE is mended: its AGE that was");
+        check.due("the last KITE", x.mend(7), 1);
+        row(x, "mended", 0, 1, 2, 3, 4, 5, 6, 7, 0);
+        row(x, "mended", 2, 0, 1, 0, 0, 0, 0, 0, 0);
+        row(x, "mended", 3, 3, 1, 3, 3, 3, 3, 3, 0);
+        check.due("the second KITE", x.mend(1), 1);
+        row(x, "both mended", 0, 1, 0, 3, 4, 5, 6, 7, 0);
+        row(x, "both mended", 2, 0, 0, 0, 0, 0, 0, 0, 0);
+        row(x, "both mended", 3, 3, 0, 3, 3, 3, 3, 3, 0);
+
+        check.says(16, "the day 1 more, and all BOYS have all hours again.");
+        x = Check.with(full());
+        pass(x, 23);
+        int[] left = {0, 0, 0, 1};
+        int[] again = {1, 2, 3, 24};
+        for (int i = 0; i < 4; i++) {
+            check.due("in hour 23: hours of " + i, x.boy(i, 1), left[i]);
+        }
+        x.hour();
+        for (int i = 0; i < 4; i++) {
+            check.due("on day 1: hours of " + i, x.boy(i, 1), again[i]);
+        }
     }
 
     private void about() {
