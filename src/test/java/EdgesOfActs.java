@@ -528,6 +528,13 @@ final class EdgesOfActs {
         check.due("nothing was done", x.about(9), 1);
         check.due("redo()", x.redo(), true);
         check.due("at first", new KiteRoofs().back(0), -1);
+        x.image(0);
+        x.image(2);
+        check.due("BOX 3 beside full ones", x.back(3), -1);
+        check.due("BOX -1 beside full ones", x.back(-1), -1);
+        for (int wrong : Check.FAR) {
+            check.due("beside full ones back(" + wrong + ")", x.back(wrong), -1);
+        }
     }
 
     /** As many of each sort as can be; LIFTS are the sizes 1 to 8, PLACES the spools. b's and d's last KITES are torn off. */
@@ -645,8 +652,11 @@ final class EdgesOfActs {
         for (char c = 'a'; c < 'i'; c++) {
             eight.append("kite ").append(c).append(" of r at 0 size 1 cord 1 height 9 tied;");
         }
-        x = Check.with(eight.toString());
+        x = Check.with(eight + "boy a arms 1;boy b arms 1;");
         check.due("all FLY", x.about(6), 255);
+        x.give(0, 1);
+        check.due("all FLY, whoever has them", x.about(6), 255);
+        x.tie(0);
         x.hour();
         check.due("all are LOST", x.about(7), 255);
 

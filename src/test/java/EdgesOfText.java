@@ -119,6 +119,15 @@ final class EdgesOfText {
         check.due("an empty text", x.town(), 0);
         check.due("no draw", x.about(5), 0);
 
+        String[] cut = {"draw 57;", "draw 5a;", "roof ab at 1 weight 1;", "boy    b arms 1;", "wind 1+2;"};
+        for (String text : cut) {
+            Check.put(x, text);
+            x.end(6);
+            check.due("the first 6 bytes of " + text, x.town(), -1);
+            check.due("what is behind them is no part of a TOKEN", x.fault(0), 2);
+            check.due("the end", x.fault(1), 6);
+        }
+
         check.says(3, "NONE, doing nothing, if it has not so many, or n is below 0.");
         x = new KiteRoofs();
         check.due("an empty TAPE has not one", x.end(1), -1);
@@ -204,9 +213,10 @@ final class EdgesOfText {
             check.due("wind is not told any more", x.force(1, 0), 5);
             check.due("gust is not told any more", x.force(1, 1), 6);
         }
-        Check.put(x, "roof a at 0 weight 0;kite a of a at 0 size 2 cord 99 height 1 tied;");
+        Check.put(x, "roof a at 0 weight 11;kite a of a at 0 size 2 cord 99 height 1 tied;");
         x.town();
         check.due("lift is not told any more", x.kite(0, 5), 10);
+        check.due("there are no gusts any more", x.odds(0, 1, 0), 0);
 
         check.says(4, "hour 0 of day 0");
         x = anew();
@@ -600,7 +610,12 @@ final class EdgesOfText {
         check.sound("lift " + thirty + ";");
         check.faultAt("wind " + thirty + "+", "1;", 2);
         check.faultAt("lift " + thirty + "+", "1;", 2);
-        check.faultAt("wind " + thirty + " and not ", "1;", 2);
+        String[] joints = {"*", "/", "-", "<1 or ", " or ", " and ", " and not "};
+        for (String joint : joints) {
+            int each = joint.startsWith("<") ? 2 : 1;
+            check.sound("wind " + ("1" + joint).repeat(29 / each) + "1;");
+            check.faultAt("wind " + ("1" + joint).repeat(30 / each), "1;", 2);
+        }
         check.faultAt("wind " + thirty + " or ", "height;", 2);
         check.due("60", told("wind " + thirty + ";lift " + thirty + ";").about(13), 60);
         check.faultAt("wind " + thirty + ";lift " + thirty + "+", "1;", 2);
