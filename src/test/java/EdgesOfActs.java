@@ -53,6 +53,21 @@ final class EdgesOfActs {
         check.due("from 0 to 1", x.fly(2, 1), 0);
         check.due("it FLIES", x.about(6), 7);
 
+        check.says(12, "ACTS: a KITE that is not LOST is flown at a height, or landed; it is tied; it is given to a BOY; it is let "
+            + "go (neither then)");
+        x = town();
+        x.fly(1, 9);
+        check.due("flown", x.about(8), 1);
+        x.fly(1, 0);
+        check.due("landed", x.about(8), 2);
+        x.tie(1);
+        check.due("tied", x.about(8), 3);
+        x.give(1, 0);
+        check.due("given", x.about(8), 4);
+        x.give(1, -1);
+        check.due("let go", x.about(8), 5);
+        check.due("neither then", x.kite(1, 1), -1);
+
         check.says(12, "NONE, doing nothing, if it is LOST, it is the same, or one can't be. (An ACT.)");
         x = town();
         check.due("the same", x.fly(1, 2), -1);
@@ -641,6 +656,18 @@ final class EdgesOfActs {
     }
 
     private void about() {
+        check.says(38, "What 0: KITES, 1: ROOFS, 2: BOYS, 3: the hour, 4: the day, 5: the SEED");
+        KiteRoofs y = Check.with(full());
+        int[] first = {8, 4, 4, 0, 0, 0};
+        for (int what = 0; what < first.length; what++) {
+            check.due("about(" + what + ")", y.about(what), first[what]);
+        }
+        pass(y, 24);
+        int[] next = {8, 4, 4, 0, 1};
+        for (int what = 0; what < next.length; what++) {
+            check.due("on day 1 about(" + what + ")", y.about(what), next[what]);
+        }
+
         check.says(38, "6: KITES that FLY, 7: LOST, both as bits");
         KiteRoofs x = town();
         check.due("FLY", x.about(6), 3);

@@ -79,6 +79,17 @@ final class EdgesOfSky {
     }
 
     private void kiteAnswers() {
+        check.says(6, "Of a KITE what 0: its height");
+        KiteRoofs y = one("4 size 1 cord 99 height 9 tied", "");
+        check.due("9", y.kite(0, 0), 9);
+        y.fly(0, 0);
+        check.due("landed", y.kite(0, 0), 0);
+        check.due("of a LOST one as it was", lost().kite(0, 0), 3);
+
+        check.says(6, "3: its AGE");
+        check.due("of a LOST one", lost().kite(0, 3), 1);
+        check.due("of one landed", y.kite(0, 3), 0);
+
         check.says(6, "1: -2 tied, the BOY who holds it, or NONE");
         KiteRoofs x = one("4 size 1 cord 99", "boy a arms 9;boy b arms 9;boy c arms 9;boy d arms 9;");
         check.due("neither", x.kite(0, 1), -1);
@@ -144,6 +155,16 @@ final class EdgesOfSky {
     }
 
     private void roofAnswers() {
+        check.says(7, "Of a ROOF what 0: its weight, 1: what its KITES PULL together");
+        KiteRoofs y = Check.with("roof a at 0 weight 0;roof b at 0 weight 999;kite k of b at 0 size 1 cord 5 height 1 tied;"
+            + "kite l of b at 9 size 2 cord 99 height 1 tied;kite m of b at 18 size 3 cord 99 height 1;");
+        check.due("weight 0", y.roof(0, 0), 0);
+        check.due("weight 999", y.roof(1, 0), 999);
+        check.due("no KITES", y.roof(0, 1), 0);
+        check.due("5 and 10, and one that is not HELD", y.roof(1, 1), 15);
+        y.fly(1, 0);
+        check.due("5", y.roof(1, 1), 5);
+
         check.says(7, "2: 1 if UP, else 0, 3: how often it was DOWN, 4: its KITES, as bits");
         KiteRoofs x = Check.with("roof a at 0 weight 0;roof b at 0 weight 1;roof c at 19 weight 1;" + eight("b"));
         check.due("weight 0, no KITES", x.roof(0, 2), 1);

@@ -20,6 +20,7 @@ final class EdgesOfText {
         allStays();
         fault();
         bytesOfATown();
+        lines();
         optionalParts();
         repeatedParts();
         words();
@@ -62,6 +63,9 @@ final class EdgesOfText {
         check.due("fault(0)", x.fault(0), 0);
         check.due("fault(1)", x.fault(1), -1);
         check.due("hour()", x.hour(), 0);
+
+        check.says(1, "`NONE = -1`: There is none.");
+        check.due("NONE", KiteRoofs.NONE, -1);
     }
 
     private static void feedBlanks(KiteRoofs x, int times) {
@@ -324,6 +328,38 @@ final class EdgesOfText {
         check.sound("draw 7;");
         check.sound("draw 7;wind 7;");
         check.faultAt("draw 7;", ";", 2);
+    }
+
+    /** A line, its TOKENS parted by blanks: none may be missing, and none may be another one. */
+    private void whole(String ahead, String line) {
+        check.sound(ahead + line);
+        String before = ahead;
+        for (String token : line.split(" ")) {
+            check.fault(before.stripTrailing() + " ", before.equals(ahead) ? 0 : 2,
+                before.equals(ahead) ? -1 : before.stripTrailing().length() + 1);
+            check.faultAt(before, token.equals("at") ? "of" : "at", 2);
+            before += token + " ";
+        }
+    }
+
+    private void lines() {
+        check.says(4, "line = roof NAME at N weight N ;");
+        whole("", "roof s at 1 weight 1 ;");
+
+        check.says(4, "kite NAME of NAME at N size N cord N");
+        whole(ROOF, "kite k of r at 1 size 1 cord 1 ;");
+        whole(ROOF, "kite k of r at 1 size 1 cord 1 height 1 tied ;");
+
+        check.says(4, "boy NAME arms N [hours N] ;");
+        whole("", "boy b arms 1 ;");
+        whole("", "boy b arms 1 hours 1 ;");
+
+        check.says(4, "holds NAME NAME ; | wind e ; | lift e ; | gust N of N ; | draw N ;.");
+        whole(KITE + BOY, "holds b k ;");
+        whole("", "wind 1 + ( 2 or 3 ) ;");
+        whole("", "lift 1 < 2 and not 3 ;");
+        whole("", "gust 1 of 1 ;");
+        whole("", "draw 1 ;");
     }
 
     private void optionalParts() {
