@@ -54,6 +54,7 @@ final class EdgesOfText {
         }
         check.due("up()", x.up(), 0);
         check.due("force(9, 0)", x.force(9, 0), 5);
+        check.due("force(9, 1)", x.force(9, 1), 6);
         check.due("kite(0, 0)", x.kite(0, 0), -3);
         check.due("roof(0, 0)", x.roof(0, 0), -1);
         check.due("boy(0, 0)", x.boy(0, 0), -1);
@@ -221,6 +222,7 @@ final class EdgesOfText {
         x.town();
         check.due("lift is not told any more", x.kite(0, 5), 10);
         check.due("there are no gusts any more", x.odds(0, 1, 0), 0);
+        oldTownsAreGone();
 
         check.says(4, "hour 0 of day 0");
         x = anew();
@@ -251,6 +253,32 @@ final class EdgesOfText {
         check.says(4, "the TIME stays");
         check.due("TIME", x.about(11), 7);
         check.due("later(0)", x.later(0), 7);
+    }
+
+    /** Each new text is shorter than two that were told before it. */
+    private void oldTownsAreGone() {
+        String kite = "roof r at 0 weight 1;kite k of r at 0 size 1 cord 9";
+        KiteRoofs x = new KiteRoofs();
+        String[] old = {kite + " height 9 tied;wind 1+2;lift not 3;", kite + " height 8;boy b arms 1;holds b k;wind not 7;"};
+        for (String text : old) {
+            Check.put(x, text);
+            x.town();
+        }
+        Check.put(x, kite + ";wind not 0;lift 7;");
+        x.town();
+        check.due("height is not told any more", x.kite(0, 0), 0);
+        check.due("nor who has it", x.kite(0, 1), -1);
+        check.due("wind", x.force(1, 0), 1);
+        Check.put(x, kite + ";wind 6;");
+        x.town();
+        check.due("height is not told any more", x.kite(0, 0), 0);
+        check.due("nor who has it", x.kite(0, 1), -1);
+        check.due("wind", x.force(1, 0), 6);
+        x.fly(0, 1);
+        check.due("lift is not told any more", x.kite(0, 5), 6);
+        Check.put(x, kite + " height 1;lift 7;");
+        x.town();
+        check.due("lift", x.kite(0, 5), 7);
     }
 
     private void allStays() {
